@@ -10,6 +10,8 @@ public final class HintsTest {
         hintsLeast();
         hindered();
         hinderedLeast();
+        hinderedMost();
+        strangersOriginIsOneMore();
         byTurns();
         turnsOneBehindAnother();
         keeping();
@@ -89,6 +91,25 @@ public final class HintsTest {
         DUE.is("only one left", x.hinder(0, 5), NONE);
     }
 
+    private static void hinderedMost() {
+        // Each says it alone at PLACE 3 and keeps to PLACE 2 from then on.
+        StringBuilder text = new StringBuilder("person0;".repeat(8));
+        for (int p = 0; p < 8; p++) {
+            text.append("move1 " + p + " 3;say1 " + p + " 0;move1 " + p + " 2;");
+        }
+        ThreeVoices x = Due.told(text.toString());
+        DUE.is("all but one have to be told", x.hinder(0, 1), 127);
+        DUE.is("LAW", x.law(0, 0, 1), 7);
+        DUE.is("too late", x.hinder(0, 2), NONE);
+    }
+
+    private static void strangersOriginIsOneMore() {
+        // 3 has said it from 0 and 1: so 0 and 1, told, stay joined with 3 and are joined with each other.
+        ThreeVoices x = Due.told(FOUR + "think 0 0 0;think 0 1 0;talk 0 0 3;talk 0 1 3;say 1 3 0;say 2 0 0;say 2 1 0;say 2 2 0;");
+        DUE.is("LAW", x.law(0, 0, 1), 7);
+        DUE.is("what they had stays", x.hinder(0, 2), 3);
+    }
+
     private static void byTurns() {
         ThreeVoices x = Due.told(FOUR);
         DUE.is("one hint is too few", x.turns(0, 0, 1), 0);
@@ -146,6 +167,8 @@ public final class HintsTest {
         DUE.is("others MOVE on", y.keepAt(0, 0), 3);
         ThreeVoices m = Due.told("person 3;person 0;think 0 1 0;think 0 1 1;maybe 1 1 0;say 2 1 0;");
         DUE.is("MAYBE ones were not", m.keepAt(0, 0), 1);
+        ThreeVoices n = Due.told("person 3;person 0;think 0 1 0;maybe 0 1 0;say 1 1 0;");
+        DUE.is("MAYBE ones ahead were not", n.keepAt(0, 1), 1);
     }
 
     private static void fraction(ThreeVoices x, int t, int day, int a, int b, long upper, long lower) {

@@ -23,6 +23,7 @@ public final class StoryTest {
         badOfAStory();
         lawInAllStories();
         fewest();
+        allSix();
         lawByEach();
         carriesNothing();
         badOfStories();
@@ -192,6 +193,17 @@ public final class StoryTest {
             + "say 3 0 0;say 4 1 0;say 5 2 0;");
         DUE.is("least bit", z.falls(0), 1);
         DUE.is("each alone", z.alone(0), 3);
+    }
+
+    private static void allSix() {
+        ThreeVoices x = Due.told("person 0;person 1;person 2;" + "person 3;".repeat(5) + "think 0 0 0;maybe 1 0 3;maybe 1 3 4;"
+            + "maybe 1 4 5;maybe 1 5 6;maybe 1 6 7;maybe 1 7 1;say 3 0 0;say 4 1 0;say 5 2 0;");
+        DUE.is("all six letters", x.falls(0), 63);
+        DUE.is("does not stand", x.stands(0), 0);
+        DUE.is("none alone", x.alone(0), 0);
+        DUE.is("with five", x.law(0, 62, 0), 5);
+        DUE.is("with six", x.law(0, 63, 0), NONE);
+        DUE.is("all but the first are empty", x.empty(), 62);
     }
 
     private static void lawByEach() {

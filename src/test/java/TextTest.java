@@ -145,6 +145,8 @@ public final class TextTest {
         fault("persons 0;", 0);
         fault("perso 0;", 0);
         fault("personperson 0;", 0);
+        fault("personz 0;", 0);
+        fault("persona 0;", 0);
         fault("Person 0;", 0);
         fault("pErson 0;", 0);
         fault("p", 0);

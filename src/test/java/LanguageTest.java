@@ -1,0 +1,69 @@
+import java.nio.charset.StandardCharsets;
+import java.nio.file.Files;
+import java.nio.file.Path;
+import java.util.HashSet;
+import java.util.List;
+import java.util.Set;
+import java.util.regex.Matcher;
+import java.util.regex.Pattern;
+
+/** What of ../shared/LANGUAGE.md can be seen by looking for words; the first argument is the class's file. */
+public final class LanguageTest {
+    private static final Due DUE = new Due("LanguageTest");
+    private static final List<String> FORBIDDEN = List.of("\\bthrow\\b", "\\bthrows\\b", "\\btry\\b", "\\bcatch\\b",
+        "\\bsynchronized\\b", "\\bassert\\b", "\\bprotected\\b", "\\bpackage\\b", "\\bimport\\b", "->", "::", "\\bstatic \\{",
+        "Exact\\b", "\\bSystem\\.(?!arraycopy)", "\\bObject\\b", "\\bString\\.", "\\bThread\\b", "\" \\+", "\\+ \"",
+        "\\[\\]\\[\\]\\[\\]", "\\bnull\\b");
+
+    public static void main(String[] args) throws Exception {
+        String all = Files.readString(Path.of(args[0]), StandardCharsets.UTF_8);
+        String code = all.replaceAll("(?s)/\\*.*?\\*/", "").replaceAll("//[^\n]*", "");
+        for (String word : FORBIDDEN) {
+            DUE.is("times that " + word + " stands there", count(code, word), 0);
+        }
+        DUE.is("signs beyond 127", all.chars().filter(c -> c > 127).count(), 0);
+        DUE.is("public classes", count(code, "public final class "), 1);
+        DUE.is("loops without a bound", count(code, "while \\(true\\)|for \\(;;\\)"), 0);
+        names(code);
+        lengths(code);
+        DUE.end();
+    }
+
+    private static int count(String code, String pattern) {
+        Matcher m = Pattern.compile(pattern).matcher(code);
+        int n = 0;
+        while (m.find()) {
+            n++;
+        }
+        return n;
+    }
+
+    /** No method that is not public bears the name of a public one. */
+    private static void names(String code) {
+        Set<String> open = new HashSet<>();
+        Matcher m = Pattern.compile("\n    public \\w+ (\\w+)\\(").matcher(code);
+        while (m.find()) {
+            open.add(m.group(1));
+        }
+        DUE.is("public methods", open.size(), 25);
+        Matcher other = Pattern.compile("\n {4,8}(?:private |static )*(?:int|long|boolean|void) (\\w+)\\(").matcher(code);
+        while (other.find()) {
+            DUE.is("a method that is not public: " + other.group(1), open.contains(other.group(1)) ? 1 : 0, 0);
+        }
+    }
+
+    /** Methods of at most sixty lines, from a brace behind a head to the brace at the head's own depth. */
+    private static void lengths(String code) {
+        String[] lines = code.split("\n");
+        for (int i = 0; i < lines.length; i++) {
+            Matcher head = Pattern.compile("^( {4}| {8})\\w.*\\) \\{$").matcher(lines[i]);
+            if (head.find()) {
+                int end = i;
+                while (!lines[end].equals(head.group(1) + "}")) {
+                    end++;
+                }
+                DUE.is("lines of " + lines[i].trim(), Math.max(0, end - i + 1 - 60), 0);
+            }
+        }
+    }
+}
