@@ -26,6 +26,11 @@ public final class LanguageTest {
         DUE.is("loops without a bound", count(code, "while \\(true\\)|for \\(;;\\)"), 0);
         names(code);
         lengths(code);
+        DUE.is("classes beyond twelve", Math.max(0, count(code, "\\b(class|record|enum|interface) \\w+ ") - 12), 0);
+        parameters(code);
+        DUE.is("static fields that are not final", count(code, "\\bstatic (?!final )[\\w\\[\\]]+ \\w+( =|;)"), 0);
+        DUE.is("static arrays", count(code, "\\bstatic final \\w+\\["), 0);
+        DUE.is("texts held against one another by ==", count(code, "[!=]= \"|\" [!=]="), 0);
         DUE.end();
     }
 
@@ -50,6 +55,17 @@ public final class LanguageTest {
         while (other.find()) {
             DUE.is("a method that is not public: " + other.group(1), open.contains(other.group(1)) ? 1 : 0, 0);
         }
+    }
+
+    /** At most seven parameters. */
+    private static void parameters(String code) {
+        Matcher head = Pattern.compile("\n {4,8}\\w[\\w ]* (\\w+)\\(([^()]*)\\) \\{").matcher(code);
+        int heads = 0;
+        while (head.find()) {
+            heads++;
+            DUE.is("parameters of " + head.group(1), Math.max(0, head.group(2).split(",").length - 7), 0);
+        }
+        DUE.is("heads of methods, at least 50", Math.min(heads, 50), 50);
     }
 
     /** Methods of at most sixty lines, from a brace behind a head to the brace at the head's own depth. */

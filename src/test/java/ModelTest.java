@@ -7,6 +7,9 @@ public final class ModelTest {
     private static final String[] WORDS = {"talk", "maybe", "think", "say", "move"};
     private static final String[] WRONG = {"", ";", "4", "00", "100", "person", "x", "-", "\u00c8", "99", "say", " 7 7 "};
 
+    private static final int[] FAR = {Integer.MIN_VALUE, Integer.MIN_VALUE + 1, -1000000, 100, 256, 65536, 1 << 30,
+        Integer.MAX_VALUE - 1, Integer.MAX_VALUE};
+
     private long state;
     private int folk = 0;
     private final ThreeVoices x = new ThreeVoices();
@@ -19,7 +22,8 @@ public final class ModelTest {
     public static void main(String[] args) {
         int runs = args.length > 1 ? Integer.parseInt(args[1]) : 120;
         for (int run = 0; run < runs; run++) {
-            new ModelTest(run).go();
+            new ModelTest(2L * run).go();
+            new ModelTest(2L * run + 1).goWithFaults();
         }
         DUE.end();
     }
@@ -45,9 +49,21 @@ public final class ModelTest {
         }
     }
 
+    /** Texts with faults alone, one behind another on one object. */
+    private void goWithFaults() {
+        int left = 512;
+        while (left > 60) {
+            left -= tellOne(true);
+            for (int what = 0; what < 5; what++) {
+                DUE.is("count(" + what + ")", x.count(what), m.count(what));
+                left--;
+            }
+        }
+    }
+
     private int typeAny() {
         long v = (long) some(1 << 30) << 34 ^ some(1 << 30);
-        int n = some(12) - 1;
+        int n = some(8) == 0 ? number(8) : some(12) - 1;
         DUE.is("type(" + v + ", " + n + ")", x.type(v, n), m.type(v, n));
         return 1;
     }
@@ -104,9 +120,12 @@ public final class ModelTest {
         return b.toString();
     }
 
-    /** A number up to most, or now and then one beyond. */
+    /** A number up to most, or now and then one beyond, at times far beyond. */
     private int number(int most) {
         int pick = some(40);
+        if (pick == 2 && some(4) == 0) {
+            return FAR[some(FAR.length)];
+        }
         if (pick == 0) {
             return -1 - some(3);
         }

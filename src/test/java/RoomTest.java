@@ -26,7 +26,19 @@ public final class RoomTest {
         makesNothing("comes", () -> x.comes(0, 0, 1));
         makesNothing("type", () -> x.type(0x706572736f6e303bL, 8));
         makesNothing("tell", () -> x.clear() + x.type(0x706572736f6e303bL, 8) + x.tell());
+        newMakesLittle();
         DUE.end();
+    }
+
+    /** All objects of a run share one room, so one of them is to take little of it. */
+    private static void newMakesLittle() {
+        ThreeVoices[] kept = new ThreeVoices[100];
+        long ahead = THREAD.getCurrentThreadAllocatedBytes();
+        for (int i = 0; i < kept.length; i++) {
+            kept[i] = new ThreeVoices();
+        }
+        long each = (THREAD.getCurrentThreadAllocatedBytes() - ahead) / kept.length;
+        DUE.is("new made " + each + " bytes each: too many", each > 10000 ? 1 : 0, kept[99].count(0));
     }
 
     private static void makesNothing(String call, LongSupplier asked) {
