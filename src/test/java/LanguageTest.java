@@ -1,8 +1,10 @@
 import java.nio.charset.StandardCharsets;
 import java.nio.file.Files;
 import java.nio.file.Path;
+import java.util.HashMap;
 import java.util.HashSet;
 import java.util.List;
+import java.util.Map;
 import java.util.Set;
 import java.util.regex.Matcher;
 import java.util.regex.Pattern;
@@ -28,6 +30,8 @@ public final class LanguageTest {
         lengths(code);
         DUE.is("classes beyond twelve", Math.max(0, count(code, "\\b(class|record|enum|interface) \\w+ ") - 12), 0);
         parameters(code);
+        depth(code);
+        fields(code);
         DUE.is("static fields that are not final", count(code, "\\bstatic (?!final )[\\w\\[\\]]+ \\w+( =|;)"), 0);
         DUE.is("static arrays", count(code, "\\bstatic final \\w+\\["), 0);
         DUE.is("texts held against one another by ==", count(code, "[!=]= \"|\" [!=]="), 0);
@@ -80,6 +84,52 @@ public final class LanguageTest {
                 }
                 DUE.is("lines of " + lines[i].trim(), Math.max(0, end - i + 1 - 60), 0);
             }
+        }
+    }
+
+    /** Calls open at once, at most eight deep; methods of one name are taken for one. */
+    private static void depth(String code) {
+        Map<String, Set<String>> calls = new HashMap<>();
+        Matcher body = Pattern.compile("(?s)\n( {4}| {8})\\w[\\w \\[\\]]* (\\w+)\\([^()]*\\) \\{\n(.*?)\n\\1\\}").matcher(code);
+        while (body.find()) {
+            Set<String> called = calls.computeIfAbsent(body.group(2), name -> new HashSet<>());
+            Matcher call = Pattern.compile("\\b(\\w+)\\(").matcher(body.group(3));
+            while (call.find()) {
+                called.add(call.group(1));
+            }
+        }
+        DUE.is("methods, at least 70", Math.min(calls.size(), 70), 70);
+        for (String name : calls.keySet()) {
+            DUE.is("calls too deep from " + name, Math.max(0, deepest(name, calls, new HashSet<>()) - 8), 0);
+        }
+    }
+
+    /** A method that is open already is recursion, whose depth is carried as an argument: it adds nothing. */
+    private static int deepest(String name, Map<String, Set<String>> calls, Set<String> open) {
+        if (!calls.containsKey(name) || !open.add(name)) {
+            return 0;
+        }
+        int most = 0;
+        for (String next : calls.get(name)) {
+            most = Math.max(most, deepest(next, calls, open));
+        }
+        open.remove(name);
+        return most + 1;
+    }
+
+    /** At most twenty fields a class beside its constants, none of them package-visible or more in the class itself. */
+    private static void fields(String code) {
+        for (String each : code.split("\\bclass ")) {
+            String name = each.split("\\W", 2)[0];
+            Matcher field = Pattern.compile("(?m)^( {4}| {8})(?!.*\\bstatic )(private |final )*[\\w\\[\\]]+ \\w+( = [^;]*)?;$").matcher(each);
+            int fields = 0;
+            while (field.find()) {
+                boolean ofTheFace = field.group(1).length() == 4;
+                fields += ofTheFace == name.equals("ThreeVoices") ? 1 : 0;
+                DUE.is("a field that is not private: " + field.group().trim(),
+                    ofTheFace && !field.group().contains("private ") ? 1 : 0, 0);
+            }
+            DUE.is("fields of " + name + " beyond twenty", Math.max(0, fields - 20), 0);
         }
     }
 }

@@ -159,7 +159,7 @@ public final class StoryTest {
         DUE.is("a letter joins", y.stands(0), 0);
         DUE.is("falls by it", y.falls(0), 1);
         DUE.is("alone", y.alone(0), 1);
-        // No LAW without any, but LAW with the letter: 1 has what 2 thinks only so.
+        // Thoughts without VOICES: no LAW, whether the letter was or not.
         ThreeVoices z = Due.told("person 0;person 1;person 2;think 0 0 0;think 0 2 0;talk 0 0 1;maybe 1 2 1;");
         DUE.is("none without any", z.stands(0), 0);
         DUE.is("falls 0", z.falls(0), 0);
